@@ -28,8 +28,8 @@ public final class HourWell {
     private static final int WAIT_STEP = 0;
     private static final int WALK_STEP = 1;
     private static final int ASK_STEP = 11;
-    /** Sixty steps that take an hour, and an ask for each thing at first and for each one taken. */
-    private static final int MOST_STEPS = 200;
+    /** Sixty steps that take an hour, an ask for each thing, and one more for each that a lion took. */
+    private static final int MOST_STEPS = 2 * MOST_WAY_HOURS + THINGS;
     /** A road or a host to be left out of the ways, where none is. */
     private static final int NOBODY = -1;
 
@@ -94,6 +94,7 @@ public final class HourWell {
         bytes = 0;
         world.becomeLike(draft);
         son.startAnew();
+        ways.forgetWay();
         firstImage.isKept = false;
         secondImage.isKept = false;
         cups.forgetAll();
@@ -202,8 +203,8 @@ public final class HourWell {
 
     public int soonest(int t, int i) {
         if (!isThing(t) || !isWithin(i, -1, LAST_STEP_ASKED)) return BAD;
-        if (i == -1) return ways.fewestHours(t, NOBODY, NOBODY);
-        return ways.setsOut(t) ? ways.stepOfWay(t, i) : NONE;
+        ways.findWay(t);
+        return i == -1 ? ways.wayHours : ways.stepOfWay(i);
     }
 
     public int latest(int t, int n) {
@@ -213,13 +214,14 @@ public final class HourWell {
 
     public int without(int t, int what) {
         if (!isThing(t) || !isWithin(what, 0, 1)) return BAD;
-        if (ways.fewestHours(t, NOBODY, NOBODY) == NONE) return 0;
-        return what == 0 ? ways.neededRoads(t) : ways.neededHosts(t);
+        ways.findWay(t);
+        return what == 0 ? ways.neededRoads() : ways.neededHosts();
     }
 
     public int robbed(int t, int from) {
         if (!isThing(t) || !world.hasPlace(from)) return BAD;
-        return ways.setsOut(t) ? ways.placeOfRobbery(t, from) : NONE;
+        ways.findWay(t);
+        return ways.placeOfRobbery(from);
     }
 
     // ---- clocks
@@ -375,7 +377,6 @@ public final class HourWell {
         int roads;
         int hosts;
         int off;
-        boolean isOffTold;
         private final int[] lions = new int[MOST_PLACES];
         private final int[] gateFrom = new int[MOST_PLACES];
         private final int[] gateHours = new int[MOST_PLACES];
@@ -391,7 +392,6 @@ public final class HourWell {
             roads = 0;
             hosts = 0;
             off = 0;
-            isOffTold = false;
         }
 
         void becomeLike(World other) {
@@ -399,7 +399,6 @@ public final class HourWell {
             roads = other.roads;
             hosts = other.hosts;
             off = other.off;
-            isOffTold = other.isOffTold;
             System.arraycopy(other.lions, 0, lions, 0, MOST_PLACES);
             System.arraycopy(other.gateFrom, 0, gateFrom, 0, MOST_PLACES);
             System.arraycopy(other.gateHours, 0, gateHours, 0, MOST_PLACES);
@@ -448,12 +447,6 @@ public final class HourWell {
             if (!hasPlace(p)) return false;
             gateFrom[p] = from;
             gateHours[p] = hours;
-            return true;
-        }
-
-        boolean setOff(int hours) {
-            off = hours;
-            isOffTold = true;
             return true;
         }
 
@@ -557,6 +550,7 @@ public final class HourWell {
         private int start;
         private int kind;
         private int value;
+        private boolean isOffTold;
 
         Reader(int[] text, World world) {
             this.text = text;
@@ -568,6 +562,7 @@ public final class HourWell {
             world.forgetAll();
             length = Math.min(bytes, text.length);
             next = 0;
+            isOffTold = false;
             for (int items = 0; items <= MOST_BYTES; items++) {
                 readToken();
                 if (kind == END) return items;
@@ -621,7 +616,10 @@ public final class HourWell {
         }
 
         private boolean readsOff() {
-            return !world.isOffTold && readsNumber(0, MOST_OFF) && world.setOff(value);
+            if (isOffTold || !readsNumber(0, MOST_OFF)) return false;
+            world.off = value;
+            isOffTold = true;
+            return true;
         }
 
         private boolean readsPlace() {
@@ -743,6 +741,15 @@ public final class HourWell {
         private final Son son;
         private final int[] table = new int[(MOST_WAY_HOURS + 1) * MOST_PLACES];
         private final int[] brotherHours = new int[MOST_PLACES];
+        /** The soonest way that was found last, and from where: it is often asked for step by step. */
+        private final int[] steps = new int[MOST_STEPS];
+        private int stepCount;
+        int wayHours;
+        private int wayThing;
+        private int fromPlace;
+        private int fromHour;
+        private int fromThings;
+        /** Where he is on that way, the hours gone, what he has there. */
         private int place;
         private int gone;
         private int things;
@@ -750,9 +757,82 @@ public final class HourWell {
         Ways(World world, Son son) {
             this.world = world;
             this.son = son;
+            wayThing = NONE;
         }
 
-        int fewestHours(int thing, int noRoad, int noHost) {
+        void forgetWay() {
+            wayThing = NONE;
+        }
+
+        /** Finds the soonest way of a thing: its hours, or NONE, and its steps. */
+        void findWay(int thing) {
+            if (isWayKnown(thing)) return;
+            wayThing = thing;
+            fromPlace = son.place;
+            fromHour = son.hour;
+            fromThings = son.things;
+            stepCount = 0;
+            wayHours = fewestHours(thing, NOBODY, NOBODY);
+            if (wayHours == NONE) return;
+            fillBackward(thing, wayHours);
+            standAtStart();
+            for (int k = 0; k < MOST_STEPS; k++) {
+                int step = nextStep();
+                if (step == NONE) return;
+                steps[k] = step;
+                stepCount = k + 1;
+                takeStep(step);
+            }
+        }
+
+        private boolean isWayKnown(int thing) {
+            return thing == wayThing && fromPlace == son.place && fromHour == son.hour && fromThings == son.things;
+        }
+
+        int stepOfWay(int i) {
+            return i >= 0 && i < stepCount && i < MOST_STEPS ? steps[i] : NONE;
+        }
+
+        /** Where on the way that was found the brother is no later than he who has the thing. */
+        int placeOfRobbery(int from) {
+            measureBrother(from);
+            standAtStart();
+            for (int k = 0; k < stepCount && k < MOST_STEPS; k++) {
+                boolean hasIt = hasThing(things, wayThing);
+                takeStep(steps[k]);
+                if (isWalk(steps[k]) && hasIt && brotherHoursTo(place) <= gone) return place;
+            }
+            return NONE;
+        }
+
+        int neededRoads() {
+            int used = usedSteps();
+            int bits = 0;
+            for (int r = 0; r < world.roads; r++) {
+                boolean isUsed = (used >> WALK_STEP + r & 1) == 1;
+                if (isUsed && fewestHours(wayThing, r, NOBODY) == NONE) bits |= 1 << r;
+            }
+            return bits;
+        }
+
+        int neededHosts() {
+            int used = usedSteps();
+            int bits = 0;
+            for (int h = 0; h < world.hosts; h++) {
+                boolean isUsed = (used >> ASK_STEP + h & 1) == 1;
+                if (isUsed && fewestHours(wayThing, NOBODY, h) == NONE) bits |= 1 << h;
+            }
+            return bits;
+        }
+
+        /** The steps of the way as bits: what it does without can't be needed. */
+        private int usedSteps() {
+            int bits = 0;
+            for (int k = 0; k < stepCount && k < MOST_STEPS; k++) bits |= 1 << steps[k];
+            return bits;
+        }
+
+        private int fewestHours(int thing, int noRoad, int noHost) {
             Arrays.fill(table, 0);
             addSets(0, son.place, 1 << son.things);
             for (int e = 0; e <= MOST_WAY_HOURS; e++) {
@@ -772,59 +852,15 @@ public final class HourWell {
             return NONE;
         }
 
-        int neededRoads(int thing) {
-            int bits = 0;
-            for (int r = 0; r < world.roads; r++) {
-                if (fewestHours(thing, r, NOBODY) == NONE) bits |= 1 << r;
-            }
-            return bits;
-        }
-
-        int neededHosts(int thing) {
-            int bits = 0;
-            for (int h = 0; h < world.hosts; h++) {
-                if (fewestHours(thing, NOBODY, h) == NONE) bits |= 1 << h;
-            }
-            return bits;
-        }
-
-        /** Stands at the beginning of the soonest way, with the table of it; false, if there is none. */
-        boolean setsOut(int thing) {
-            int hours = fewestHours(thing, NOBODY, NOBODY);
-            if (hours == NONE) return false;
-            fillBackward(thing, hours);
-            place = son.place;
+        private void standAtStart() {
+            place = fromPlace;
             gone = 0;
-            things = son.things;
-            return true;
-        }
-
-        /** The i-th step of the way on which he has set out. */
-        int stepOfWay(int thing, int i) {
-            for (int k = 0; k < i; k++) {
-                int step = nextStep(thing);
-                if (step == NONE) return NONE;
-                takeStep(step);
-            }
-            return nextStep(thing);
-        }
-
-        /** Where, on the way on which he has set out, the brother is no later than he. */
-        int placeOfRobbery(int thing, int from) {
-            measureBrother(from);
-            for (int k = 0; k < MOST_STEPS; k++) {
-                int step = nextStep(thing);
-                if (step == NONE) return NONE;
-                boolean hasIt = hasThing(things, thing);
-                takeStep(step);
-                if (isWalk(step) && hasIt && brotherHoursTo(place) <= gone) return place;
-            }
-            return NONE;
+            things = fromThings;
         }
 
         /** The least step from behind which he can yet be home in time; NONE at the way's end. */
-        private int nextStep(int thing) {
-            if (place == HOME && hasThing(things, thing)) return NONE;
+        private int nextStep() {
+            if (place == HOME && hasThing(things, wayThing)) return NONE;
             if (canBeHome(gone + 1, place, things)) return WAIT_STEP;
             for (int r = 0; r < world.roads; r++) {
                 if (isWalkHomeward(r)) return WALK_STEP + r;
@@ -897,9 +933,12 @@ public final class HourWell {
         private void spreadWalks(int e, boolean isOnward, int noRoad) {
             for (int r = 0; r < world.roads; r++) {
                 if (r == noRoad) continue;
+                int a = world.roadStart(r);
+                int b = world.roadEnd(r);
                 int then = e + world.roadHours(r);
-                spreadWalk(e, then, world.roadStart(r), world.roadEnd(r), isOnward);
-                spreadWalk(e, then, world.roadEnd(r), world.roadStart(r), isOnward);
+                if (then > MOST_WAY_HOURS) continue;
+                spreadWalk(e, then, a, b, isOnward);
+                spreadWalk(e, then, b, a, isOnward);
             }
         }
 
@@ -934,7 +973,7 @@ public final class HourWell {
         }
 
         private boolean canBeHome(int e, int p, int had) {
-            return (setsAt(e, p) >>> had & 1) == 1;
+            return isCell(e, p) && (table[e * MOST_PLACES + p] >>> had & 1) == 1;
         }
 
         private int setsAt(int e, int p) {
@@ -1051,9 +1090,8 @@ public final class HourWell {
         }
 
         int surelyOn(int seat) {
-            int found = cupsOn(seat);
-            if (found == 0) return NONE;
-            return Integer.bitCount(found) == 1 ? Integer.numberOfTrailingZeros(found) : NOT_ONE_ALONE;
+            if (rowCount == 0) return NONE;
+            return Integer.bitCount(cupsOn(seat)) == 1 ? cupOn(rows[0], seat) : NOT_ONE_ALONE;
         }
 
         int bestTaste(int n) {

@@ -99,6 +99,10 @@ public final class CupsTest {
         x.tastes(0, 4);
         CHECK.due("cup 4 is never on seat 0", x.lie(5, -1), 0);
         x.clears();
+        int[][] most = {{0, 1}, {0, 2}, {0, 3}, {1, 4}, {0, 1}, {3, 4}};
+        for (int[] row : most) x.swaps(row[0], row[1]);
+        CHECK.due("the most rows there can be", x.lie(5, -1), 56);
+        x.clears();
         x.swaps(0, 1);
         x.tastes(0, 1);
         x.tastes(0, 0);
@@ -129,6 +133,9 @@ public final class CupsTest {
         x.swaps(3, 4);
         CHECK.due("of several the least", x.lie(5, -2), 3);
         CHECK.due("not there with three", x.lie(3, -2), -9);
+        HourWell first = new HourWell();
+        first.swaps(0, 1);
+        CHECK.due("seat 0", first.lie(2, -2), 0);
         x.swaps(3, 2);
         CHECK.due("the seat of the most cups", x.lie(5, -2), 2);
         CHECK.due("with four cups the last swap alone counts", x.lie(4, -2), 2);

@@ -132,6 +132,34 @@ public final class JourneyTest {
         }
         CHECK.due("older ones are lost", x.undo(), -2);
         CHECK.due("the hour stays", x.now(1), 8);
+        undoingAll();
+    }
+
+    /** Twenty steps that change the place or the things; the last twelve come back one by one. */
+    private static void undoingAll() {
+        HourWell x = Check.told("p;p;p;r0 1 1;r1 2 2;r2 0 3;l1 0;h0 0 9;h0 1 9;h1 0 9;h1 2 9;h2 3 9;");
+        int[] steps = {11, 12, 1, 13, 14, 2, 15, 3, 1, 13, 2, 3, 1, 13, 2, 3, 1, 13, 2, 3};
+        int[][] ahead = new int[steps.length][];
+        for (int k = 0; k < steps.length; k++) {
+            ahead[k] = new int[] {x.now(0), x.now(1), x.now(3)};
+            int answer = steps[k] > 10 ? x.asks(steps[k] - 11) : x.walks(steps[k] - 1);
+            CHECK.due("step " + k + " is done", answer < 0 ? 0 : 1, 1);
+        }
+        x.keep(0);
+        undoesTo(x, ahead);
+        x.waits();
+        x.back(0);
+        undoesTo(x, ahead);
+    }
+
+    private static void undoesTo(HourWell x, int[][] ahead) {
+        for (int k = ahead.length - 1; k >= ahead.length - 12; k--) {
+            x.undo();
+            CHECK.due("the place ahead of step " + k, x.now(0), ahead[k][0]);
+            CHECK.due("the hour ahead of step " + k, x.now(1), ahead[k][1]);
+            CHECK.due("the things ahead of step " + k, x.now(3), ahead[k][2]);
+        }
+        CHECK.due("no more", x.undo(), -2);
     }
 
     private static void now() {
@@ -140,6 +168,7 @@ public final class JourneyTest {
         CHECK.due("now(6)", x.now(6), -1);
         CHECK.due("now(4): the gate is shut at 4, nothing for the lion", x.now(4), 1);
         CHECK.due("now(5)", x.now(5), 1);
+        CHECK.due("now(5) of two hosts", Check.told("p;h0 1 9;h0 2 9;h0 3 1;").now(5), 3);
         x.asks(0);
         CHECK.due("now(4) with bread", x.now(4), 3);
         CHECK.due("now(5) with bread", x.now(5), 2);

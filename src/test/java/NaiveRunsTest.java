@@ -49,7 +49,7 @@ public final class NaiveRunsTest {
 
     private String tale() {
         StringBuilder text = new StringBuilder();
-        int places = 1 + below(5);
+        int places = below(8) == 0 ? 7 : 1 + below(5);
         for (int k = 0; k < places; k++) text.append("p;");
         if (places > 1) {
             for (int k = 1; k < places && below(8) != 0; k++) road(text, k, below(k));

@@ -112,7 +112,9 @@ public final class TaleTest {
         fault("p   ", "");
         fault("p;r", "");
         fault("p;p;r0 1 2", "");
-        fault("p", "p;".substring(1, 1));
+        fault("p", "!;");
+        fault("", "pz;");
+        fault("", "pa;");
         fault("p ", "0;");
         fault("p ", "p;");
         fault("p;", "\u0000");
@@ -163,6 +165,18 @@ public final class TaleTest {
         fault("o3;", "o9;");
         fault("p;r0", "");
         fault("r", "0 1 1;p;p;");
+        oldBytes("px", "p", -11);
+        oldBytes("o12;", "o1", -12);
+        oldBytes("p;;", "p", -11);
+        oldBytes("p;p;", "p;", 1);
+    }
+
+    /** What a cleared text had behind the new one's end is not read. */
+    private static void oldBytes(String old, String text, int want) {
+        HourWell x = new HourWell();
+        for (char c : old.toCharArray()) x.type(c);
+        x.clear();
+        CHECK.due("tale of '" + text + "' behind '" + old + "'", Check.tell(x, text), want);
     }
 
     private static void tellingAnew() {
@@ -194,6 +208,7 @@ public final class TaleTest {
         y.walks(0);
         CHECK.due("tale of one place", Check.tell(y, "p;"), 1);
         CHECK.due("at home then", y.now(0), 0);
+        CHECK.due("off may be told again in another text", Check.tell(Check.told("o3;"), "o2;"), 1);
     }
 
     private static void faultChangesNothing() {

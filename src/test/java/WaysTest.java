@@ -110,12 +110,50 @@ public final class WaysTest {
         way("home with it", x, 0, 0);
         CHECK.due("nothing is changed: the hour", x.now(1), 2);
         CHECK.due("nothing is changed: what may be undone", x.count(6), 4);
+        theKnownWayGrowsOld();
         HourWell late = Check.told("p;p;r0 1 9;h1 0 9;g1 1 1;");
         while (late.now(1) < 9999) late.waits();
         CHECK.due("beyond 9999", late.soonest(0, -1), 19);
         CHECK.due("beyond 9999: latest", late.latest(0, 60), 25);
         CHECK.due("beyond 9999: without", late.without(0, 0), 1);
         CHECK.due("beyond 9999: robbed", late.robbed(0, 1), 0);
+    }
+
+    /** A way is found anew when the place, the hour, the things or the tale are others. */
+    private static void theKnownWayGrowsOld() {
+        HourWell x = Check.told("p;p;r0 1 1;h1 0 9;g1 2 1;h0 1 9;h1 2 1;");
+        CHECK.due("at hour 0", x.soonest(0, -1), 3);
+        x.waits();
+        CHECK.due("at hour 1", x.soonest(0, -1), 2);
+        x.undo();
+        CHECK.due("at hour 0 again", x.soonest(0, -1), 3);
+        x.waits();
+        x.walks(0);
+        x.keep(0);
+        CHECK.due("at the host's", x.soonest(0, -1), 1);
+        x.undo();
+        x.waits();
+        CHECK.due("at home in the same hour", x.soonest(0, -1), 25);
+        x.back(0);
+        CHECK.due("at the host's again", x.soonest(0, -1), 1);
+        CHECK.due("the thing of a host who asks", x.soonest(2, -1), 25);
+        x.asks(0);
+        CHECK.due("having it", x.soonest(0, 0), 1);
+        x.undo();
+        CHECK.due("having it no more", x.soonest(0, 0), 11);
+        Check.tell(x, "p;");
+        CHECK.due("an empty tale", x.soonest(0, -1), NONE);
+        Check.tell(x, "p;h0 0 9;");
+        CHECK.due("another tale", x.soonest(0, -1), 0);
+        Check.tell(x, "p;p;r0 1 3;h1 0 9;");
+        CHECK.due("another tale again", x.soonest(0, -1), 6);
+        CHECK.due("latest leaves the way alone", x.latest(0, 6), 0);
+        CHECK.due("its step", x.soonest(0, 1), 11);
+        CHECK.due("without leaves the way alone", x.without(0, 0), 1);
+        CHECK.due("its last step", x.soonest(0, 2), 1);
+        CHECK.due("its hours", x.soonest(0, -1), 6);
+        Check.tell(x, "x");
+        CHECK.due("a fault leaves the way alone", x.soonest(0, -1), 6);
     }
 
     private static void latest() {
@@ -144,6 +182,9 @@ public final class WaysTest {
         CHECK.due("none at all: hosts", x.without(3, 1), 0);
         x.asks(3);
         CHECK.due("he has it", x.without(2, 1), 0);
+        HourWell two = Check.told("p;p;p;r0 1 1;r1 2 1;h2 0 1;h1 1 9;");
+        CHECK.due("two roads", two.without(0, 0), 3);
+        CHECK.due("two hosts", two.without(0, 1), 3);
         HourWell tooLong = Check.told("p;p;p;p;p;r0 1 9;r1 2 9;r2 3 9;r3 4 4;r0 4 1;h4 0 9;");
         CHECK.due("without road 4 it takes 62 hours", tooLong.without(0, 0), 16);
         HourWell justSo = Check.told("p;p;p;p;p;r0 1 9;r1 2 9;r2 3 9;r3 4 3;r0 4 1;h4 0 9;");
@@ -162,6 +203,8 @@ public final class WaysTest {
         CHECK.due("just as late", z.robbed(0, 2), 0);
         HourWell w = Check.told("p;p;p;r0 1 1;r0 2 3;h1 0 9;");
         CHECK.due("an hour too late", w.robbed(0, 2), NONE);
+        HourWell far = Check.told("p;p;p;p;p;p;p;r1 0 9;r2 1 1;r3 2 1;r4 3 1;r5 4 1;r6 5 1;h1 0 9;");
+        CHECK.due("the brother comes by six roads", far.robbed(0, 6), 0);
         HourWell apart = Check.told("p;p;p;r0 1 1;h1 0 9;");
         CHECK.due("no road to him", apart.robbed(0, 2), NONE);
         HourWell lion = Check.told("p;p;p;r0 1 1;r0 2 1;r1 2 1;h0 0 9;l2 0;h2 0 9;h2 1 9;g2 1 1;");
