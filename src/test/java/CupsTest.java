@@ -116,6 +116,12 @@ public final class CupsTest {
         CHECK.due("swaps with a seat that there is not", x.lie(3, -1), 1);
         CHECK.due("swaps with a seat that there is", x.lie(4, -1), 4);
         x.clears();
+        x.swaps(1, 3);
+        CHECK.due("a swap with the seat behind the last", x.lie(3, -1), 1);
+        x.clears();
+        x.swaps(3, 1);
+        CHECK.due("a swap of the seat behind the last", x.lie(3, -1), 1);
+        x.clears();
         x.tastes(3, 0);
         CHECK.due("taste of a seat that there is not", x.lie(3, -1), 0);
         x.clears();

@@ -93,6 +93,14 @@ public final class KindsTest {
             x.undo();
             CHECK.due("the hour undone", x.now(1), 14 - i);
         }
+        HourWell things = Check.told("p;h0 0 9;");
+        things.keep(0);
+        things.asks(0);
+        things.keep(1);
+        things.back(0);
+        CHECK.due("the things of image 0", things.now(3), 0);
+        things.back(1);
+        CHECK.due("the things of image 1", things.now(3), 1);
         HourWell y = Check.told("p;");
         y.keep(0);
         y.waits();

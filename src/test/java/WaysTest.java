@@ -44,6 +44,7 @@ public final class WaysTest {
         CHECK.due("robbed(0, -1)", x.robbed(0, -1), -1);
         CHECK.due("robbed(0, 2)", x.robbed(0, 2), -1);
         HourWell none = new HourWell();
+        CHECK.due("no places: soonest(0, -1)", none.soonest(0, -1), NONE);
         CHECK.due("no places: soonest(4, 0)", none.soonest(4, 0), NONE);
         CHECK.due("no places: soonest(4, 100)", none.soonest(4, 100), -1);
         CHECK.due("no places: latest(4, 60)", none.latest(4, 60), NONE);
@@ -60,8 +61,23 @@ public final class WaysTest {
         way("bread for the lion", Check.told("p;p;r0 1 1;h1 2 9;h0 0 9;l1 0;"), 2, 2, 12, 1, 11, 1);
         way("no bread", Check.told("p;p;r0 1 1;h1 2 9;l1 0;"), 2, NONE);
         way("what the lion takes is gone", Check.told("p;p;p;r0 1 1;r1 2 1;r2 0 1;h1 0 9;l2 0;"), 0, 2, 1, 11, 1);
+        allThings();
         way("two lions on the way, bread of each", Check.told("p;p;p;r0 1 1;r1 2 1;l1 0;l2 0;h0 0 9;h1 0 9;h2 1 9;h2 0 9;"),
             1, 4, 11, 1, 12, 2, 13, 14, 2, 1);
+    }
+
+    /** With all five things, by a short way on which a lion takes one, or by a long one. */
+    private static void allThings() {
+        for (int taken = 0; taken < 5; taken++) {
+            HourWell x = Check.told("p;p;p;r0 2 9;r2 1 1;r1 0 1;h2 0 9;h2 1 9;h2 2 9;h2 3 9;h2 4 9;l1 " + taken + ";");
+            x.walks(0);
+            for (int h = 0; h < 5; h++) x.asks(h);
+            for (int t = 0; t < 5; t++) {
+                CHECK.due("the lion takes " + taken + ": soonest(" + t + ", -1)", x.soonest(t, -1), t == taken ? 9 : 2);
+                CHECK.due("the lion takes " + taken + ": soonest(" + t + ", 0)", x.soonest(t, 0), t == taken ? 1 : 2);
+                CHECK.due("the lion takes " + taken + ": latest(" + t + ", 20)", x.latest(t, 20), t == taken ? 11 : 18);
+            }
+        }
     }
 
     private static void order() {
