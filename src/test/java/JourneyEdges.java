@@ -17,8 +17,8 @@ final class JourneyEdges {
     /** Back and forth by a road of nine hours, and waits for what is left over. */
     private static HourWell at(int hour, String tale) {
         HourWell x = Check.told(tale);
-        while (x.now(1) + 9 <= hour) x.walks(0);
-        while (x.now(1) < hour) x.waits();
+        for (int k = 0; k < hour / 9; k++) x.walks(0);
+        Check.waits(x, hour % 9);
         return x;
     }
 
@@ -115,7 +115,10 @@ final class JourneyEdges {
         x.walks(0);
         Check.waits(x, 9);
         edges.due("count(6) of thirteen", x.count(6), 12);
-        for (int k = 11; k >= 3; k--) edges.due("undo() of a wait", x.undo(), k);
+        for (int k = 11; k >= 3; k--) {
+            edges.due("undo() of a wait", x.undo(), k);
+            edges.due("now(1) ahead of it", x.now(1), k);
+        }
         edges.row("now(..) ahead of the waits", 0, x::now, 1, 3, 3, 2);
         edges.due("undo() of the walk", x.undo(), 2);
         edges.row("now(..) ahead of the walk", 0, x::now, 0, 1, 1, 3);
@@ -131,6 +134,26 @@ final class JourneyEdges {
         refused.walks(0);
         refused.asks(0);
         edges.due("what was refused is not undone", refused.undo(), STATE);
+        twelveOfMany();
+    }
+
+    /** Thirty steps round three places; each time a lion takes what the next host gives again. */
+    private void twelveOfMany() {
+        HourWell x = Check.told("p;p;p;r0 1 1;r1 2 2;r2 0 3;l1 0;h0 0 9;");
+        int[][] ahead = new int[30][];
+        for (int k = 0; k < 30; k++) {
+            ahead[k] = new int[] {x.now(0), x.now(1), x.now(3)};
+            if (k % 5 == 0) edges.due("asks(0)", x.asks(0), 1);
+            else if (k % 5 == 1) edges.due("waits()", x.waits(), ahead[k][1] + 1);
+            else edges.due("walks(..)", x.walks(k % 5 - 2), (k % 5 - 1) % 3);
+        }
+        for (int k = 29; k >= 18; k--) {
+            edges.due("undo()", x.undo(), k - 18);
+            edges.due("now(0) ahead of step " + k, x.now(0), ahead[k][0]);
+            edges.due("now(1) ahead of step " + k, x.now(1), ahead[k][1]);
+            edges.due("now(3) ahead of step " + k, x.now(3), ahead[k][2]);
+        }
+        edges.due("undo() of what is lost", x.undo(), STATE);
     }
 
     private void promises() {

@@ -88,8 +88,8 @@ public final class JourneyTest {
 
     /** Walks the road 0 of nine hours, both ways, and waits for what is left over. */
     private static void walksOften(HourWell x, int hour) {
-        while (x.now(1) + 9 <= hour) x.walks(0);
-        while (x.now(1) < hour) x.waits();
+        for (int k = 0; k < hour / 9; k++) x.walks(0);
+        Check.waits(x, hour % 9);
     }
 
     private static void asking() {

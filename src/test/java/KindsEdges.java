@@ -91,6 +91,26 @@ final class KindsEdges {
             edges.due("now(3)", x.now(3), 1);
             edges.due("back(1) again", x.back(1), 4);
             edges.due("undo() again", x.undo(), 4);
+            HourWell y = Check.told("p;p;r0 1 1;h1 0 9;h0 1 9;");
+            y.walks(0);
+            y.asks(0);
+            y.keep(0);
+            y.walks(0);
+            y.asks(1);
+            y.waits();
+            edges.due("back(0) to another place", y.back(0), 1);
+            edges.row("now(..)", 0, y::now, 1, 1, 1, 1);
+            edges.due("undo() of the ask", y.undo(), 1);
+            edges.row("now(..)", 0, y::now, 1, 1, 1, 0);
+            edges.due("undo() of the walk", y.undo(), 0);
+            edges.row("now(..)", 0, y::now, 0, 0, 0, 0);
+            y.asks(1);
+            y.waits();
+            edges.due("back(0) again", y.back(0), 1);
+            y.undo();
+            edges.row("now(..) as the image had it", 0, y::now, 1, 1, 1, 0);
+            y.undo();
+            edges.row("now(..) as the image had it", 0, y::now, 0, 0, 0, 0);
         });
     }
 

@@ -16,7 +16,7 @@ public final class NaiveRunsTest {
     }
 
     public static void main(String[] args) {
-        int runs = args.length > 0 ? Integer.parseInt(args[0]) : 400;
+        int runs = args.length > 0 ? Integer.parseInt(args[0]) : 600;
         long seed = args.length > 1 ? Long.parseLong(args[1]) : 1;
         for (int k = 0; k < runs; k++) new NaiveRunsTest(seed + k).run();
         CHECK.end();
@@ -57,12 +57,12 @@ public final class NaiveRunsTest {
                 int a = below(places);
                 road(text, a, (a + 1 + below(places - 1)) % places);
             }
-            if (below(2) == 0) item(text, 'l', 1 + below(places - 1), thing());
             for (int p = 1; p < places; p++) {
+                if (below(4) == 0) item(text, 'l', p, thing());
                 if (below(3) == 0) item(text, 'g', p, below(24), 1 + below(below(2) == 0 ? 24 : 6));
             }
         }
-        for (int k = below(6); k > 0; k--) item(text, 'h', below(places), thing(), below(2) == 0 ? 9 : thing());
+        for (int k = below(7); k > 0; k--) item(text, 'h', below(places), thing(), below(2) == 0 ? 9 : thing());
         if (below(2) == 0) item(text, 'o', below(7));
         return text.length() > 200 ? text.substring(0, 200) : text.toString();
     }

@@ -265,20 +265,20 @@ final class NaiveWell {
     // ---- ways
 
     /** Of all rows of steps that end at home with the thing at that hour the first, whole; null: none. */
-    private List<Integer> first(State s, int t, int end, int noRoad, int noHost, Map<State, List<Integer>> known) {
+    private List<Integer> first(State s, int t, int end, Map<State, List<Integer>> known) {
         if (s.hour() > end) return null;
         if (known.containsKey(s)) return known.get(s);
         List<List<Integer>> rows = new ArrayList<>();
         if (s.place() == 0 && s.hour() == end && s.things().contains(t)) rows.add(List.of());
         State waited = new State(s.place(), s.hour() + 1, s.things());
-        addRow(rows, 0, first(waited, t, end, noRoad, noHost, known));
+        addRow(rows, 0, first(waited, t, end, known));
         for (int r = 0; r < told.roads.size(); r++) {
-            State next = r == noRoad ? null : walked(s, r);
-            if (next != null) addRow(rows, 1 + r, first(next, t, end, noRoad, noHost, known));
+            State next = walked(s, r);
+            if (next != null) addRow(rows, 1 + r, first(next, t, end, known));
         }
         for (int h = 0; h < told.hosts.size(); h++) {
-            State next = h == noHost ? null : asked(s, h);
-            if (next != null) addRow(rows, 11 + h, first(next, t, end, noRoad, noHost, known));
+            State next = asked(s, h);
+            if (next != null) addRow(rows, 11 + h, first(next, t, end, known));
         }
         rows.sort((a, b) -> Arrays.compare(
             a.stream().mapToInt(Integer::intValue).toArray(), b.stream().mapToInt(Integer::intValue).toArray()));
@@ -295,14 +295,27 @@ final class NaiveWell {
         rows.add(row);
     }
 
-    private List<Integer> firstFrom(State s, int t, int end, int noRoad, int noHost) {
-        return first(s, t, end, noRoad, noHost, new HashMap<>());
-    }
-
+    /** Hour by hour all that can be, until he is at home with the thing. */
     private int hours(int t, int noRoad, int noHost) {
         if (told.places == 0) return -9;
+        List<Set<State>> ahead = new ArrayList<>();
+        for (int n = 0; n <= 60 + 9; n++) ahead.add(new HashSet<>());
+        ahead.get(0).add(state);
         for (int n = 0; n <= 60; n++) {
-            if (firstFrom(state, t, state.hour() + n, noRoad, noHost) != null) return n;
+            ArrayDeque<State> left = new ArrayDeque<>(ahead.get(n));
+            while (!left.isEmpty()) {
+                State s = left.poll();
+                if (s.place() == 0 && s.things().contains(t)) return n;
+                ahead.get(n + 1).add(new State(s.place(), s.hour() + 1, s.things()));
+                for (int r = 0; r < told.roads.size(); r++) {
+                    State next = r == noRoad ? null : walked(s, r);
+                    if (next != null) ahead.get(next.hour() - state.hour()).add(next);
+                }
+                for (int h = 0; h < told.hosts.size(); h++) {
+                    State next = h == noHost ? null : asked(s, h);
+                    if (next != null && ahead.get(n).add(next)) left.add(next);
+                }
+            }
         }
         return -9;
     }
@@ -311,16 +324,17 @@ final class NaiveWell {
         if (t < 0 || t > 4 || i < -1 || i > 99) return -1;
         int hours = hours(t, -1, -1);
         if (hours == -9 || i == -1) return hours;
-        List<Integer> row = firstFrom(state, t, state.hour() + hours, -1, -1);
+        List<Integer> row = first(state, t, state.hour() + hours, new HashMap<>());
         return i < row.size() ? row.get(i) : -9;
     }
 
     int latest(int t, int n) {
         if (t < 0 || t > 4 || n < 0 || n > 60) return -1;
         if (told.places == 0) return -9;
+        Map<State, List<Integer>> known = new HashMap<>();
         for (int w = n; w >= 0; w--) {
             State later = new State(state.place(), state.hour() + w, state.things());
-            if (firstFrom(later, t, state.hour() + n, -1, -1) != null) return w;
+            if (first(later, t, state.hour() + n, known) != null) return w;
         }
         return -9;
     }
@@ -365,7 +379,7 @@ final class NaiveWell {
         int hours = hours(t, -1, -1);
         if (hours == -9) return -9;
         State s = state;
-        for (int step : firstFrom(state, t, state.hour() + hours, -1, -1)) {
+        for (int step : first(state, t, state.hour() + hours, new HashMap<>())) {
             State next;
             if (step == 0) {
                 next = new State(s.place(), s.hour() + 1, s.things());

@@ -146,6 +146,15 @@ final class TaleEdges {
             edges.tells(text.toString(), -210);
             text.setCharAt(199, 'p');
             edges.tells(text.toString(), -209);
+            String blanks = " ".repeat(198);
+            edges.tells("p;" + blanks, 1);
+            edges.tells(blanks + "p;", 1);
+            edges.tells(blanks + "p ", -210);
+            edges.tells(blanks + " p", -210);
+            edges.tells(blanks + "o6", -210);
+            edges.tells(blanks + "o7", -209);
+            edges.tells("o" + "0".repeat(199), -11);
+            edges.tells("p".repeat(200), -10);
         });
         edges.edge(", blanks (32) ahead of, between and behind TOKENS as may be (none needed where TOKENS end without)", () -> {
             edges.tells("p;p;r0 1 2;h0 0 9;l1 0;g1 0 1;o1;", 7);
@@ -314,6 +323,11 @@ final class TaleEdges {
                 edges.due("undo()", x.undo(), STATE);
                 edges.row("back(..)", 0, x::back, STATE, STATE);
                 edges.due("trace()", x.trace(), trace);
+                edges.due("soonest(0, -1)", x.soonest(0, -1), NONE);
+                Check.tell(x, "p;p;r0 1 1;h1 0 9;");
+                edges.due("soonest(0, -1) of another tale", x.soonest(0, -1), 2);
+                Check.tell(x, "p;p;r0 1 2;h1 0 9;");
+                edges.due("soonest(0, -1) of yet another", x.soonest(0, -1), 4);
                 edges.due("tale() of nothing", x.tale(), 0);
                 edges.row("now(..) then", 0, x::now, NONE, 0, 0, 0, 0, 0);
                 edges.due("place(0, 0) then", x.place(0, 0), BAD);
@@ -353,9 +367,9 @@ final class TaleEdges {
     /** As busy(), with a full text, six swaps and six tastes. */
     static HourWell full() {
         HourWell x = busy();
-        while (x.count(7) < 200) x.type(' ');
-        while (x.count(4) < 6) x.swaps(3, 4);
-        while (x.count(5) < 6) x.tastes(0, 1);
+        for (int k = x.count(7); k < 200; k++) x.type(' ');
+        for (int k = x.count(4); k < 6; k++) x.swaps(3, 4);
+        for (int k = x.count(5); k < 6; k++) x.tastes(0, 1);
         return x;
     }
 
@@ -426,6 +440,13 @@ final class TaleEdges {
             edges.due("type(112)", x.type(112), 1);
             edges.due("clear() of one", x.clear(), 1);
             edges.due("tale() of none", x.tale(), 0);
+            edges.due("tale() of letters and letters", Check.tell(x, "px"), -10);
+            x.clear();
+            edges.due("tale() of letters alone: what was cleared is gone", Check.tell(x, "p"), -11);
+            x.clear();
+            edges.due("tale() of a number too great", Check.tell(x, "o12;"), -11);
+            x.clear();
+            edges.due("tale() of its beginning: what was cleared is gone", Check.tell(x, "o1"), -12);
         });
         taleItself();
         toldThings();

@@ -32,7 +32,7 @@ final class WaysEdges {
 
     private static HourWell late(String tale) {
         HourWell x = Check.told(tale);
-        while (x.now(1) < 9999) x.waits();
+        Check.waits(x, 9999);
         return x;
     }
 
@@ -45,6 +45,27 @@ final class WaysEdges {
             way("at 1 with it", x, 0, 3, 1);
             x.walks(0);
             way("at home with it", x, 0, 0);
+            HourWell gate = Check.told("p;p;r0 1 1;h1 0 9;g1 2 1;");
+            way("at hour 0", gate, 0, 3, 0, 1, 11, 1);
+            gate.waits();
+            way("at hour 1", gate, 0, 2, 1, 11, 1);
+            gate.waits();
+            edges.due("soonest(0, -1) at hour 2", gate.soonest(0, -1), 25);
+            gate.undo();
+            way("at hour 1 again", gate, 0, 2, 1, 11, 1);
+            gate.undo();
+            way("at hour 0 again", gate, 0, 3, 0, 1, 11, 1);
+            gate.waits();
+            gate.walks(0);
+            gate.keep(0);
+            way("at 1 in hour 2", gate, 0, 1, 11, 1);
+            gate.undo();
+            gate.waits();
+            edges.due("soonest(0, -1) at home in the same hour", gate.soonest(0, -1), 25);
+            gate.back(0);
+            way("at 1 in the same hour", gate, 0, 1, 11, 1);
+            gate.asks(0);
+            way("at 1 in the same hour, with it", gate, 0, 1, 1);
             for (int t = 0; t < 5; t++) {
                 int thing = t;
                 long hours = TaleEdges.busy().soonest(t, -1);
@@ -74,6 +95,9 @@ final class WaysEdges {
             way("none gives it", Check.told("p;p;r0 1 1;h0 0 9;"), 1, NONE);
             way("no road to who gives it", Check.told("p;p;h1 0 9;"), 0, NONE);
             way("a lion at the door, nothing for him", Check.told("p;p;r0 1 1;l1 0;h1 0 9;"), 0, NONE);
+            way("bread for one lion of two", Check.told("p;p;p;r0 1 1;r1 2 1;l1 0;l2 0;h0 0 9;h2 4 9;"), 4, NONE);
+            way("bread for a lion once, and no other road back", Check.told("p;p;p;r0 1 1;r1 2 1;l1 0;h0 0 9;h2 4 9;"), 4, NONE);
+            way("round a lion who takes it", Check.told("p;p;p;p;r0 1 1;r1 2 1;r0 3 1;r3 2 2;h2 0 9;l1 0;"), 0, 6, 3, 4, 11, 4, 3);
             way("two roads are sooner than one", Check.told("p;p;p;r0 2 7;r0 1 3;r1 2 3;h2 0 9;"), 0, 12, 2, 3, 11, 3, 2);
         });
         edges.edge("of several rows of STEPS by which it is so the first (step by step the lesser;", () -> {
@@ -104,7 +128,22 @@ final class WaysEdges {
             int[] end = {11, 2, 12, 2, 1};
             System.arraycopy(end, 0, steps, 46, end.length);
             way("fifty-one steps", Check.told(SLOW), 1, 49, steps);
+            sixtySevenSteps();
         });
+    }
+
+    /** In 1 at hours 11 and 59, in 2 at 34 and 58, in 3 at 57; each time a lion takes thing 0. */
+    private void sixtySevenSteps() {
+        HourWell x = Check.told("p;p;p;p;r0 1 1;r1 2 1;r2 3 1;l1 0;l2 0;l3 0;g1 11 1;g2 10 1;g3 9 1;"
+            + "h0 0 9;h1 0 9;h2 0 9;h3 0 9;h3 4 3;h3 3 9;");
+        int[] steps = new int[67];
+        steps[10] = 11;
+        steps[11] = 1;
+        steps[34] = 12;
+        steps[35] = 2;
+        int[] end = {13, 3, 14, 16, 15, 3, 13, 2, 1};
+        System.arraycopy(end, 0, steps, 58, end.length);
+        way("sixty-seven steps", x, 4, 60, steps);
     }
 
     private void latest() {
@@ -163,6 +202,11 @@ final class WaysEdges {
             HourWell x = Check.told("p;h0 0 9;");
             x.asks(0);
             edges.due("he has it", x.without(0, 1), 0);
+            HourWell both = Check.told("p;p;r0 1 1;h1 0 9;h0 1 9;");
+            edges.due("roads of a way", both.without(0, 0), 1);
+            edges.due("roads, none at all behind a way", both.without(2, 0), 0);
+            edges.due("hosts of a way", both.without(1, 1), 2);
+            edges.due("hosts, none at all behind a way", both.without(2, 1), 0);
         });
     }
 
@@ -175,6 +219,8 @@ final class WaysEdges {
             edges.due("no road to him", apart.robbed(0, 2), NONE);
             HourWell most = Check.told("p;p;p;p;p;p;p;r6 5 1;r5 4 1;r4 3 1;r3 2 1;r2 1 1;r1 0 3;h1 0 9;");
             edges.due("by six roads, two hours too late", most.robbed(0, 6), NONE);
+            HourWell turned = Check.told("p;p;p;p;p;p;p;r1 0 9;r2 1 1;r3 2 1;r4 3 1;r5 4 1;r6 5 1;h1 0 9;");
+            edges.due("by six roads, each told ahead of the one that leads to it", turned.robbed(0, 6), 0);
             most.waits();
             edges.due("from now: what he waited is no help", most.robbed(0, 6), NONE);
         });
@@ -208,6 +254,10 @@ final class WaysEdges {
             HourWell without = Check.told("p;p;r0 1 1;h0 0 9;");
             without.walks(0);
             edges.due("entered without it alone", without.robbed(0, 0), NONE);
+            HourWell shorter = Check.told("p;p;r0 1 1;h1 0 9;h0 1 9;");
+            shorter.asks(1);
+            edges.due("behind a longer way: the longer one", shorter.robbed(0, 0), 0);
+            edges.due("behind a longer way: none entered", shorter.robbed(1, 0), NONE);
         });
     }
 

@@ -128,7 +128,7 @@ public final class WaysTest {
         CHECK.due("nothing is changed: what may be undone", x.count(6), 4);
         theKnownWayGrowsOld();
         HourWell late = Check.told("p;p;r0 1 9;h1 0 9;g1 1 1;");
-        while (late.now(1) < 9999) late.waits();
+        Check.waits(late, 9999);
         CHECK.due("beyond 9999", late.soonest(0, -1), 19);
         CHECK.due("beyond 9999: latest", late.latest(0, 60), 25);
         CHECK.due("beyond 9999: without", late.without(0, 0), 1);
