@@ -129,6 +129,7 @@ final class WaysEdges {
             System.arraycopy(end, 0, steps, 46, end.length);
             way("fifty-one steps", Check.told(SLOW), 1, 49, steps);
             sixtySevenSteps();
+            sixtyEightSteps();
         });
     }
 
@@ -144,6 +145,19 @@ final class WaysEdges {
         int[] end = {13, 3, 14, 16, 15, 3, 13, 2, 1};
         System.arraycopy(end, 0, steps, 58, end.length);
         way("sixty-seven steps", x, 4, 60, steps);
+    }
+
+    /** In 1 at hours 11, 35 and 59, in 2 at 34 and 58, for what each asks of the other; lions as above. */
+    private void sixtyEightSteps() {
+        HourWell x = Check.told("p;p;p;r0 1 1;r1 2 1;l1 0;l2 0;g1 11 1;g2 10 1;h0 0 9;h1 0 9;h2 0 9;h2 1 9;h1 2 1;h2 3 2;");
+        int[] steps = new int[68];
+        steps[10] = 11;
+        steps[11] = 1;
+        int[] middle = {12, 2, 13, 14, 2};
+        System.arraycopy(middle, 0, steps, 34, middle.length);
+        int[] end = {12, 15, 2, 13, 16, 2, 1};
+        System.arraycopy(end, 0, steps, 61, end.length);
+        way("sixty-eight steps", x, 3, 60, steps);
     }
 
     private void latest() {
