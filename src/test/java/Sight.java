@@ -1,6 +1,6 @@
 import java.util.Arrays;
 
-/** All that can be seen of an object, in at most 400 calls; they use up what may be undone, and the text. */
+/** What can be seen of an object with at most four places, roads and hosts, in under 400 calls; they use up what may be undone, and the text. */
 final class Sight {
     private final HourWell well;
     private final long[] seen = new long[400];
