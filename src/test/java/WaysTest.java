@@ -64,6 +64,23 @@ public final class WaysTest {
         allThings();
         way("two lions on the way, bread of each", Check.told("p;p;p;r0 1 1;r1 2 1;l1 0;l2 0;h0 0 9;h1 0 9;h2 1 9;h2 0 9;"),
             1, 4, 11, 1, 12, 2, 13, 14, 2, 1);
+        aRowOfAsksAheadOfALion();
+    }
+
+    /**
+     * Looked at from home backward, each of these hosts is of use at once (the lion, the thing, what
+     * it is given for), and yet the host of the bread is of use a second time, behind the others.
+     */
+    private static void aRowOfAsksAheadOfALion() {
+        HourWell x = Check.told("p;p;p;r0 1 9;r1 2 1;r2 0 1;h1 2 1;h1 0 9;h1 1 0;l2 0;");
+        way("a row of asks ahead of a lion", x, 2, 11, 1, 12, 13, 11, 2, 3);
+        CHECK.due("a row of asks ahead of a lion: latest, an hour less", x.latest(2, 10), NONE);
+        CHECK.due("a row of asks ahead of a lion: latest", x.latest(2, 11), 0);
+        CHECK.due("a row of asks ahead of a lion: latest, an hour more", x.latest(2, 12), 1);
+        // with nothing for the lion he gets there by road 0 alone; home he could go by it, too
+        CHECK.due("a row of asks ahead of a lion: roads", x.without(2, 0), 1);
+        CHECK.due("a row of asks ahead of a lion: hosts", x.without(2, 1), 7);
+        CHECK.due("a row of asks ahead of a lion: robbed", x.robbed(2, 2), 2);
     }
 
     /** With all five things, by a short way on which a lion takes one, or by a long one. */
